@@ -445,7 +445,6 @@ public final class IceParliament {
 
         void rewind() {
             next = 0;
-            fault = 0;
             advance();
         }
 
@@ -649,6 +648,7 @@ public final class IceParliament {
         /** Five brackets, each behind a left side of or, <, + and *, need no more than this. */
         private static final int DEEPEST = 32;
 
+        /** Of a draft: its line was read already. */
         boolean told;
 
         private final int[] code = new int[Tape.MOST_SIGNS];
@@ -670,7 +670,6 @@ public final class IceParliament {
         void copyFrom(Law other) {
             System.arraycopy(other.code, 0, code, 0, other.size);
             size = other.size;
-            told = other.told;
         }
 
         int valueOf(int first, int second, int third) {
@@ -1694,19 +1693,15 @@ public final class IceParliament {
             }
         }
 
+        /** A prop touches no other ACT: the worth that it saves of its own one is all that it brings. */
         int bestToProp(int nights) {
-            int without = 0;
-            for (int act = 0; act < yard.acts.size; act++) {
-                without += worthBehind(act, now.props[act], nights);
-            }
-            int most = without;
+            int most = 0;
             int first = NONE;
             for (int act = 0; act < yard.acts.size; act++) {
                 if (now.canProp(act)) {
-                    int with = without - worthBehind(act, now.props[act], nights)
-                        + worthBehind(act, now.props[act] + 1, nights);
-                    if (with > most) {
-                        most = with;
+                    int saved = worthBehind(act, now.props[act] + 1, nights) - worthBehind(act, now.props[act], nights);
+                    if (saved > most) {
+                        most = saved;
                         first = act;
                     }
                 }

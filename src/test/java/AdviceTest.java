@@ -14,6 +14,7 @@ public final class AdviceTest {
         work();
         workOfMany();
         workOfTheHurt();
+        workOfWhoCarved();
         places();
         placesLeftOver();
         thin();
@@ -228,6 +229,31 @@ public final class AdviceTest {
         KIT.row("ca can't: the last of the first row carves", row, 0, 0, 0, 1);
     }
 
+    /** Who has carved tonight may carve the other act tomorrow, unless his own act falls on him. */
+    private static void workOfWhoCarved() {
+        String yard = "spot sun shade 0; spot deep shade 9; nights 3; carver a ayes skill 1; carver b noes skill 0;"
+            + "act p plain feet 3 chips 9 worth 1 by a; act q plain feet 9 chips 1 worth 7 by a;";
+        String[] yards = {yard, yard.replace("feet 3", "feet 2"), yard.replace("feet 3", "feet 4"),
+            yard.replace("worth 1 by a", "worth 1 by b")};
+        int[] worth = {0, 0, 7, 7};
+        for (int i = 0; i < yards.length; i++) {
+            IceParliament x = Kit.with(yards[i]);
+            x.begin(0, 0);
+            x.begin(1, 1);
+            x.carve(0, 0);
+            KIT.due("tonight nobody carves q in yard " + i, x.work(1, 0), 0);
+            int[] two = {x.work(2, 0), x.work(2, 1), x.work(2, 2)};
+            KIT.row("tomorrow in yard " + i, two, worth[i], worth[i] == 7 ? 1 : 0, 0);
+            x.torch(0);
+            x.torch(0);
+            if (i < 2) {
+                x.torch(0);
+                int[] torched = {x.work(2, 0), x.work(2, 1), x.work(2, 2)};
+                KIT.row("p was torched down: it falls on nobody in yard " + i, torched, 7, 1, 1);
+            }
+        }
+    }
+
     private static void places() {
         IceParliament x = Kit.with("spot s shade 0; spot m shade 2; spot d shade 5;" + CREW
             + "act p plain feet 6 chips 8 worth 10 by a; act o old feet 3 chips 2 worth 20 by a; nights 3;");
@@ -298,7 +324,7 @@ public final class AdviceTest {
             KIT.due("spot " + wrong, x.thin(0, wrong, 1), -1);
         }
         for (int wrong : new int[] {0, 31, -1, MIN, MAX}) {
-            KIT.due("nights " + wrong, x.thin(0, 0, wrong), -1);
+            KIT.due("nights " + wrong, x.thin(3, 1, wrong), -1);
         }
         IceParliament y = Kit.with("spot s shade 0;" + CREW
             + "act p plain feet 6 chips 8 worth 10 by a; melts (tall < 12) * 9 - (tall = 7) * 9;");

@@ -106,6 +106,9 @@ public final class ReadingTest {
         KIT.due("a word among nights", Kit.fault("nights 1 mild"), 1 + 16 * 9);
         KIT.due("no ;", Kit.fault("mild 1 mild"), 1 + 16 * 7);
         KIT.due("a ; alone", Kit.fault(";"), 1);
+        for (String line : whole) {
+            KIT.due("another first letter: z" + line.substring(1), Kit.fault("z" + line.substring(1)), 1);
+        }
     }
 
     private static void names() {
@@ -256,6 +259,9 @@ public final class ReadingTest {
         KIT.due("a name within 5", Kit.fault("melts not(not(not able;"), 1 + 16 * 18);
         KIT.due("beside one another they do not add up", Kit.fault("melts not not 1 + not not 1 * ((1)) < ((not not 1));"), 0);
         KIT.due("behind a bracket that is closed", Kit.fault("melts not(not(1) + not(1));"), 0);
+        IceParliament x = new IceParliament();
+        KIT.due("a fault within 4", Kit.yard(x, "melts not not not not;"), 1 + 16 * 21);
+        KIT.due("is forgotten by the next yard", Kit.yard(x, "melts not not not not 1;"), 0);
         KIT.due("they add up from there on again", Kit.fault("melts not(not(1) + not(not 1));"), 5 + 16 * 27);
     }
 
