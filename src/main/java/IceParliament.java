@@ -1681,7 +1681,7 @@ public final class IceParliament {
             for (int tall = 1; tall < odds.length; tall++) {
                 standing += odds[tall];
             }
-            return (int) (standing * 1000000 / whole);
+            return whole < 1 ? 0 : (int) (standing * 1000000 / whole);
         }
 
         private void spreadOdds(int act, int warmth, int tenths) {
