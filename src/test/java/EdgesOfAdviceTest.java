@@ -320,6 +320,15 @@ public final class EdgesOfAdviceTest {
         KIT.row("then one of 9", work(z, 2), 0, 0);
         z.night();
         KIT.row("from now on one of 9", work(z, 1), 0, 0);
+        IceParliament three = Kit.with("spot s shade 0; carver a ayes skill 9; act p plain feet 6 chips 9 worth 5 by a; nights 1 2 9;");
+        three.begin(0, 0);
+        KIT.row("1 and 2 of six feet", work(three, 2), 5, 0);
+        KIT.row("1, 2 and 9", work(three, 3), 0, 0);
+        three.night();
+        three.night();
+        three.undo();
+        KIT.row("2 of five feet", work(three, 1), 5, 0);
+        KIT.row("2 and 9", work(three, 2), 0, 0);
     }
 
     /** "of equal ones the first row (of CARVERS, by numbers, their ACTS, none behind all)". */
@@ -625,6 +634,10 @@ public final class EdgesOfAdviceTest {
         KIT.due("less two props", x.stands(0, 2), 500000);
         x.night();
         KIT.due("from now on: 3 or 6 less two", x.stands(0, 1), 500000);
+        IceParliament three = Kit.with("spot s shade 0;" + CREW + "act p plain feet 6 chips 9 worth 1 by a; nights 1 2 9;");
+        three.begin(0, 0);
+        KIT.due("1 and 2 of six feet", three.stands(0, 2), 1000000);
+        KIT.due("1, 2 and 9", three.stands(0, 3), 0);
         IceParliament none = Kit.with("spot s shade 0;" + CREW + "act p plain feet 4 chips 9 worth 1 by a;");
         none.begin(0, 0);
         KIT.due("without mild: none", none.stands(0, 1), 1000000);
@@ -830,7 +843,7 @@ public final class EdgesOfAdviceTest {
     /** "by which the greatest number of SETS with like feet is the least, if it is less than all". */
     private static void lookWhereItParts() {
         for (int carvers = 0; carvers <= 6; carvers++) {
-            for (int feet = 1; feet <= 7; feet++) {
+            for (int feet = 1; feet <= 20; feet++) {
                 IceParliament x = breathed(feet, carvers);
                 KIT.due(carvers + " on " + feet, x.look(), carvers == 0 ? -1 : 0);
                 x.tell(0, feet);

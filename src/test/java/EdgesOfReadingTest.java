@@ -37,6 +37,7 @@ public final class EdgesOfReadingTest {
         theEnd();
         faultLeavesAll();
         yardMakesAllNew();
+        yardBehindYard();
         sessionChangesNoMore();
         fortyLines();
         nestedParts();
@@ -627,6 +628,46 @@ public final class EdgesOfReadingTest {
         KIT.due("is as a new object", Kit.shot(w).equals(Kit.shot(new IceParliament())), true);
     }
 
+    /** "a YARD is the YARD from then on": nothing of the one before shows in any answer. */
+    private static void yardBehindYard() {
+        String people = "carver a ayes skill 4; carver b noes skill 3; carver c noes skill 2;";
+        String[] yards = {
+            "spot s shade 0; spot d shade 9; spot e shade 5;" + people + "act p old feet 20 chips 9 worth 9 by a; act q thin feet 9 chips 8"
+                + " worth 7 by b; act r hollow feet 9 chips 9 worth 5 by c; clash p q; clash q r; nights 5 4 3 2; mild 10; melts warmth; carves 9;",
+            "spot s shade 2;" + people + "act p plain feet 3 chips 9 worth 5 by b; act q plain feet 3 chips 9 worth 5 by b;",
+            "spot d shade 9; spot s shade 0; carver a noes skill 9; act p plain feet 9 chips 1 worth 0 by a;",
+            "spot d shade 9; spot s shade 0;" + people + "act p hollow feet 9 chips 5 worth 3 by c; act q old feet 8 chips 2 worth 4 by a; mild 5;",
+            "nights 9; carver a ayes skill 9; act p thin feet 9 chips 1 worth 9 by a; act q plain feet 9 chips 1 worth 9 by a; clash q p;",
+            people + "spot s shade 0; mild 3; carves 1;", ""};
+        for (String first : yards) {
+            for (String second : yards) {
+                IceParliament x = Kit.with(first);
+                lived(x);
+                KIT.due("no fault", Kit.yard(x, second), 0);
+                KIT.due(second + " behind " + first, lived(x).equals(lived(Kit.with(second))), true);
+            }
+        }
+    }
+
+    private static java.util.List<Integer> lived(IceParliament x) {
+        java.util.List<Integer> all = new java.util.ArrayList<>();
+        for (int round = 0; round < 2; round++) {
+            for (int i = -1; i < 4; i++) {
+                all.addAll(java.util.Arrays.asList(x.act(i, 0), x.act(i, 3), x.act(i, 8), x.carver(i, 0), x.carver(i, 1), x.places(i),
+                    x.work(3, i), x.thin(i, 0, 4), x.thin(i, 1, 2), x.falls(i), x.stands(i, 3), x.judged(i), x.mend(i), x.sets(i),
+                    x.side(i), x.decades(5, 9, i), x.count(2 + i)));
+            }
+            all.addAll(java.util.Arrays.asList(x.count(5), x.clashes(), x.propped(2), x.look()));
+            for (int i = 0; i < 3; i++) {
+                all.add(Kit.bit(x.begin(i, i)));
+                all.add(x.carve(i, i));
+                all.add(Kit.bit(x.tell(i, 3)));
+            }
+        }
+        all.add(Kit.session(x, "night; night;"));
+        return all;
+    }
+
     /** "A SESSION is the SESSION": nothing else is changed by it, and nothing but a YARD takes it away. */
     private static void sessionChangesNoMore() {
         IceParliament x = new IceParliament();
@@ -809,6 +850,14 @@ public final class EdgesOfReadingTest {
                 KIT.due(values[i] + " < " + values[j], melted(values[i] + " < " + values[j], 3, 0, 3), i < j ? 1 : 0);
                 KIT.due(values[i] + " = " + values[j], melted(values[i] + " = " + values[j], 3, 0, 3), i == j ? 1 : 0);
             }
+        }
+        for (String none : new String[] {"0 or 0", "0 and 0", "0 and 1", "1 and 0", "2 < 1", "1 < 1", "1 = 2", "not 1"}) {
+            KIT.due("0 comes of " + none, melted("5 + (" + none + ")", 9, 0, 3), 5);
+            KIT.due("0 comes of " + none, carved("(" + none + ") + 5", 9, 3), 5);
+        }
+        for (String so : new String[] {"3 or 0", "0 or 3", "3 or 3", "3 and 2", "1 < 2", "2 = 2", "not 0"}) {
+            KIT.due("1 comes of " + so, melted("5 + (" + so + ")", 9, 0, 3), 6);
+            KIT.due("1 comes of " + so, carved("(" + so + ") + 5", 9, 3), 6);
         }
         KIT.due("from the left: (1 or 1) and 0", melted("1 or 1 and 0", 3, 0, 3), 0);
         KIT.due("from the left: (0 and 0) or 1", melted("0 and 0 or 1", 3, 0, 3), 1);
