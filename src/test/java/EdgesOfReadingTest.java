@@ -651,6 +651,7 @@ public final class EdgesOfReadingTest {
 
     private static java.util.List<Integer> lived(IceParliament x) {
         java.util.List<Integer> all = new java.util.ArrayList<>();
+        x.mark(3, false);
         for (int round = 0; round < 2; round++) {
             for (int i = -1; i < 4; i++) {
                 all.addAll(java.util.Arrays.asList(x.act(i, 0), x.act(i, 3), x.act(i, 8), x.carver(i, 0), x.carver(i, 1), x.places(i),
@@ -665,6 +666,8 @@ public final class EdgesOfReadingTest {
             }
         }
         all.add(Kit.session(x, "night; night;"));
+        x.mark(3, true);
+        all.add(x.places(-1));
         return all;
     }
 
